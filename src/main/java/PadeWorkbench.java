@@ -525,9 +525,9 @@ public final class PadeWorkbench {
             int square = a;
             for (int rest = p - 2; rest > 0; rest >>= 1) {
                 if ((rest & 1) == 1) {
-                    power = times(power, square, p);
+                    power = reduce(power * square, p);
                 }
-                square = times(square, square, p);
+                square = reduce(square * square, p);
             }
             return power;
         }

@@ -15,6 +15,7 @@ public final class PointsTest {
         test.reciprocals();
         test.poleAtZero();
         test.unattainablePoints();
+        test.unattainableAtBothEnds();
         test.zeroFraction();
         test.tenPoints();
         test.smallestField();
@@ -139,6 +140,20 @@ public final class PointsTest {
         is(w, 1, row(5), row(1), 1);
         is(w, 3, row(5), row(1), 1);
         is(w, 2, row(5), row(1), 1);
+    }
+
+    /** The missed point may be the first or the last, and what is left may have x in it. */
+    private void unattainableAtBothEnds() {
+        // y = 3 / (x + 2), which is 7 at 4, but for that point
+        int[][] first = {{4, 1}, {0, 8}, {1, 1}, {2, 4}};
+        int[][] last = {{0, 8}, {1, 1}, {2, 4}, {4, 1}};
+        is(Checks.withPoints(13, first), 1, row(8), row(1, 7), 1);
+        is(Checks.withPoints(13, last), 1, row(8), row(1, 7), 1);
+        // y = (x + 1) / (x + 3), which is 6 at 5, but for that point
+        first = new int[][] {{5, 0}, {0, 5}, {1, 4}, {2, 2}, {3, 3}};
+        last = new int[][] {{0, 5}, {1, 4}, {2, 2}, {3, 3}, {5, 0}};
+        is(Checks.withPoints(7, first), 2, row(5, 5), row(1, 5), 1);
+        is(Checks.withPoints(7, last), 2, row(5, 5), row(1, 5), 1);
     }
 
     private void zeroFraction() {

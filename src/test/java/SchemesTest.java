@@ -144,6 +144,9 @@ public final class SchemesTest {
         checks.due("e(1, 0)", w.quotientDifference(0, 1, 1, 0), 0);
         checks.due("q(2, 0), by 0", w.quotientDifference(0, 0, 2, 0), NONE);
         checks.due("q(2, 1)", w.quotientDifference(0, 0, 2, 1), 6);
+        // q(1) is 1, 2, 2, so that e(1, 0) = 1 and e(1, 1) = 0.
+        w = Checks.with(101, "1+x+2x^2+4x^3");
+        checks.due("q(2, 0), a defined 0", w.quotientDifference(0, 0, 2, 0), 0);
         checks.due("0 has no q", new PadeWorkbench().quotientDifference(0, 0, 1, 0), NONE);
     }
 
@@ -234,6 +237,7 @@ public final class SchemesTest {
 
     private void recurrences() {
         PadeWorkbench w = Checks.with(101, "1/1-x-x^2");
+        checks.due("d = 1, L = 1", w.recurrence(0, 1, 1), NONE);
         checks.due("d = 2, L = 3", w.recurrence(0, 3, 1), NONE);
         checks.due("d = 2, L = 4: g1", w.recurrence(0, 4, 1), 1);
         checks.due("d = 2, L = 4: g2", w.recurrence(0, 4, 2), 1);
