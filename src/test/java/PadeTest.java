@@ -23,6 +23,7 @@ public final class PadeTest {
         test.values();
         test.normalCounts();
         test.smallestField();
+        test.noAnswerFromBefore();
         test.checks.end();
     }
 
@@ -215,6 +216,29 @@ public final class PadeTest {
         w = Checks.with(101, "1/1-x");
         checks.due("normalCount 1", w.normalCount(0, 1), 1);
         checks.due("normalCount 15", w.normalCount(0, 15), 1);
+    }
+
+    /** Each method computes its own approximant, whatever was asked before. */
+    private void noAnswerFromBefore() {
+        PadeWorkbench w = Checks.with(101, "3/1-2x");
+        Checks.parse(w, 1, "7+x+x^9/1+5x+x^4");
+        Checks.parse(w, 2, "x^2/1-x");
+        w.order(1, 9, 4);
+        checks.due("numeratorDegree", w.numeratorDegree(0, 0, 1), 0);
+        w.order(1, 9, 4);
+        checks.due("denominatorDegree", w.denominatorDegree(0, 0, 1), 1);
+        w.order(1, 9, 4);
+        checks.due("numerator", w.numerator(0, 0, 1, 0), 3);
+        w.order(1, 9, 4);
+        checks.due("denominator", w.denominator(0, 0, 1, 1), 99);
+        w.numerator(1, 9, 4, 0);
+        checks.due("order", w.order(0, 0, 1), 16);
+        w.numerator(1, 9, 4, 0);
+        checks.due("blockSize", w.blockSize(0, 0, 1), 14);
+        w.numerator(1, 9, 4, 0);
+        checks.due("evaluate", w.evaluate(0, 0, 1, 1), 98);
+        w.numerator(1, 9, 4, 0);
+        checks.due("a shorter start", w.denominatorDegree(2, 2, 1), 1);
     }
 
     private void smallestField() {

@@ -77,6 +77,10 @@ public final class SchemesTest {
         w.set(0, 0, 1);
         // |0 1 0; 1 0 1; 1 1 0| = -1 (0 - 1)
         checks.due("D(1, 3)", w.determinant(0, 1, 3), 1);
+        w = Checks.with(7, "1/1-x");
+        for (int n = 2; n <= 15; n++) {
+            checks.due("equal rows: D(1, n)", w.determinant(0, 1, n), 0);
+        }
         w = Checks.with(2, "1+x^2");
         checks.due("D(1, 2) modulo 2", w.determinant(0, 1, 2), 1);
     }
