@@ -1,8 +1,10 @@
 /** What the tests share: comparing answers, and giving texts and series to a workbench. */
 final class Checks {
+    private int made;
     private int wrong;
 
     void due(String call, long got, long want) {
+        made++;
         if (got != want) {
             wrong++;
             System.out.println(call + " answered " + got + ", due is " + want);
@@ -10,10 +12,21 @@ final class Checks {
     }
 
     void hold(String what, boolean holds) {
+        made++;
         if (!holds) {
             wrong++;
             System.out.println(what + " does not hold");
         }
+    }
+
+    /** How many answers were compared. */
+    int made() {
+        return made;
+    }
+
+    /** How many of them were not as due. */
+    int wrong() {
+        return wrong;
     }
 
     /** Ends the program, with 1 if an answer was not as due. */
