@@ -229,6 +229,13 @@ final class SchemeEdges {
         checks.due("q(2, 0) divides by e(1, 0)", q(w, 2, 0), NONE);
         checks.due("q(2, 1) is defined", q(w, 2, 1), 6);
         checks.due("e(2, 0) uses q(2, 0)", e(w, 2, 0), NONE);
+        // A 0 above is no fault: q(1) is 1, 2, 2, and so e(1, 0) is 1 and e(1, 1) is 0.
+        w = Makers.row(101, 1, 1, 2, 4).get();
+        checks.due("e(1, 1) is 0", e(w, 1, 1), 0);
+        checks.due("q(2, 0) is 0 and defined", q(w, 2, 0), 0);
+        // q(1, 1) is 0, and so e(1, 0) is -3.
+        w = Makers.row(101, 2, 6, 0, 5).get();
+        checks.due("e(1, 0) uses a 0", e(w, 1, 0), 98);
         // 0 / 0, though a product with 0 stands above.
         w = Makers.series(101, "1/1-3x").get();
         checks.due("e(1, 0) of a geometric series", e(w, 1, 0), 0);

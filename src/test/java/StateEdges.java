@@ -46,6 +46,43 @@ final class StateEdges {
         checks.due("the prime", w.setPrime(2), 13);
     }
 
+    /** The points themselves are saved, and not only how many there were. */
+    @Says(in = "UNDO", clause = "Every method that is marked \"undoable\" saves the prime, the series and the points "
+            + "on an undo stack when it succeeds, also if it changes nothing")
+    void savedPoints() {
+        for (int count = 1; count <= 10; count++) {
+            Supplier<PadeWorkbench> maker = straight(count);
+            PadeWorkbench w = maker.get();
+            w.clearPoints();
+            w.addPoint(100, 100);
+            w.undo();
+            checks.due("undo of clearPoints", w.undo(), Math.min(count, 2));
+            checks.due("the first x", w.addPoint(0, 100), REJECTED);
+            checks.due("the x that was there in between", w.addPoint(100, 100), count < 10 ? count + 1 : FULL);
+            PadeWorkbench other = maker.get();
+            other.setPrime(2);
+            other.addPoint(0, 0);
+            other.addPoint(1, 1);
+            other.undo();
+            other.undo();
+            other.undo();
+            checks.due("the first y", other.interpolant(count - 1, 0, 0), 5);
+            checks.due("the other y", other.interpolant(count - 1, 0, 1), count > 1 ? 7 : 0);
+            checks.due("every y", other.unattainable(count - 1), 0);
+        }
+    }
+
+    /** The points 0, 1, ... with y = 5 + 7x. */
+    private static Supplier<PadeWorkbench> straight(int count) {
+        return () -> {
+            PadeWorkbench w = new PadeWorkbench();
+            for (int x = 0; x < count; x++) {
+                w.addPoint(x, 5 + 7 * x);
+            }
+            return w;
+        };
+    }
+
     /** All other methods save nothing. */
     @Says(in = "UNDO", clause = "Every method that is marked \"undoable\" saves the prime, the series and the points "
             + "on an undo stack when it succeeds, also if it changes nothing")
