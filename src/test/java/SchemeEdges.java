@@ -79,6 +79,29 @@ final class SchemeEdges {
         }
     }
 
+    /** The large ones: D(m, n) of f is D(n, m) of 1 / f(-x) if c0 is 1 (Jacobi and Trudi). */
+    @Says(in = "TOEPLITZ DETERMINANTS", clause = "The determinant D(m, n) of a series is the determinant of the "
+            + "matrix with n rows and n columns whose entry in row i and column j (i and j from 0 to n - 1) is the "
+            + "coefficient with the index m + i - j, or 0 if this index is negative")
+    void largeDeterminants() {
+        for (int p : new int[] {2, 3, 101, 251}) {
+            int[] c = mixed(p);
+            c[0] = 1;
+            int[] turned = c.clone();
+            for (int k = 1; k < 16; k += 2) {
+                turned[k] = (p - c[k]) % p;
+            }
+            int[] dual = Poly.series(new int[] {1}, turned, p);
+            PadeWorkbench w = Makers.row(p, c).get();
+            for (int m = 0; m <= 6; m++) {
+                for (int n = 7; m + n <= 16; n++) {
+                    checks.due("D(" + m + ", " + n + ") modulo " + p,
+                            w.determinant(0, m, n), leibniz(dual, n, m, 0, 0, p));
+                }
+            }
+        }
+    }
+
     @Says(in = "TOEPLITZ DETERMINANTS", clause = "D(m, 0) is 1")
     void emptyDeterminant() {
         for (int m = 0; m <= 16; m++) {

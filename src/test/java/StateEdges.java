@@ -83,6 +83,26 @@ final class StateEdges {
         };
     }
 
+    /** Each of these calls leaves the state as it is, and saves it. */
+    @Says(in = "UNDO", clause = "Every method that is marked \"undoable\" saves the prime, the series and the points "
+            + "on an undo stack when it succeeds, also if it changes nothing")
+    void idleCallsAreSaved() {
+        PadeWorkbench w = new PadeWorkbench();
+        w.append('0');
+        checks.due("setPrime", w.setPrime(101) + w.undo(), 101);
+        checks.due("set", w.set(3, 15, 0) + w.undo(), 0);
+        checks.due("add", w.add(0, 1, 2) + w.undo(), 0);
+        checks.due("multiply", w.multiply(0, 1, 2) + w.undo(), 0);
+        checks.due("substitute", w.substitute(0, 1, 2) + w.undo(), 0);
+        checks.due("derivative", w.derivative(0, 0) + w.undo(), 0);
+        checks.due("parse", w.parse(0) + w.undo(), 0);
+        checks.due("clearPoints", w.clearPoints() + w.undo(), 0);
+        w.set(0, 0, 1);
+        checks.due("invert", w.invert(0, 0), 1);
+        checks.due("its undo", w.undo(), 1);
+        checks.due("no call was refused", w.errorCount(0) + w.errorCount(1), 0);
+    }
+
     /** All other methods save nothing. */
     @Says(in = "UNDO", clause = "Every method that is marked \"undoable\" saves the prime, the series and the points "
             + "on an undo stack when it succeeds, also if it changes nothing")

@@ -9,14 +9,11 @@ public final class StateTest {
         StateTest test = new StateTest();
         test.undoOfEach();
         test.undoKeepsFour();
-        test.undoAfterUndo();
         test.undoKeepsTextAndErrors();
         test.failuresSaveNothing();
         test.errorCounters();
-        test.digestOfNewObject();
         test.digestByHand();
         test.digestSeesEachPart();
-        test.manyCalls();
         test.checks.end();
     }
 
@@ -119,33 +116,6 @@ public final class StateTest {
         checks.due("rejected", w.errorCount(1), 2);
     }
 
-    private void undoAfterUndo() {
-        PadeWorkbench w = new PadeWorkbench();
-        for (int i = 1; i <= 6; i++) {
-            w.set(0, 0, i);
-        }
-        w.undo();
-        w.undo();
-        w.set(0, 0, 50);
-        w.set(0, 0, 60);
-        w.set(0, 0, 70);
-        int[] want = {60, 50, 4, 3};
-        for (int i = 0; i < 4; i++) {
-            checks.due("undo", w.undo(), 3 - i);
-            checks.due("c0", w.coefficient(0, 0), want[i]);
-        }
-        // A restored state must not hang together with what is changed afterwards.
-        w = new PadeWorkbench();
-        w.addPoint(4, 4);
-        w.addPoint(5, 9);
-        w.undo();
-        w.addPoint(5, 1);
-        w.clearPoints();
-        w.undo();
-        checks.due("points", w.addPoint(6, 0), 3);
-        checks.due("the second point is the new one", w.undo() + w.interpolant(1, 0, 1), 2 + 98);
-    }
-
     private void undoKeepsTextAndErrors() {
         PadeWorkbench w = new PadeWorkbench();
         w.set(0, 0, 1);
@@ -202,21 +172,6 @@ public final class StateTest {
         return h;
     }
 
-    private void digestOfNewObject() {
-        long h = mix(12475, 0, 0, 0, 0, 0, 101);
-        for (int slot = 0; slot < 4; slot++) {
-            h = mix(h, new int[16]);
-            for (int m = 0; m < 8; m++) {
-                h = mix(h, 16, -1);
-            }
-            h = mix(h, 0, 0);
-        }
-        h = mix(h, 0);
-        PadeWorkbench w = new PadeWorkbench();
-        checks.due("digest of a new object", w.digest(), h);
-        checks.due("digest once more", w.digest(), h);
-    }
-
     private void digestByHand() {
         PadeWorkbench w = busy();
         w.append(200);
@@ -258,19 +213,5 @@ public final class StateTest {
             }
             checks.hold("part " + part + " is seen", w.digest() != before);
         }
-    }
-
-    /** The last of 512 calls is as good as the first. */
-    private void manyCalls() {
-        PadeWorkbench w = new PadeWorkbench();
-        for (int i = 0; i < 511; i++) {
-            w.set(i % 4, i % 16, i % 101);
-        }
-        checks.due("the call 512", w.coefficient(2, 14), 510 % 101);
-        w = new PadeWorkbench();
-        for (int i = 0; i < 511; i++) {
-            w.undo();
-        }
-        checks.due("the call 512", w.errorCount(1), 511);
     }
 }
