@@ -2,8 +2,9 @@ import java.util.Random;
 
 /** Runs of calls by chance, always the same ones, on the class and on the plain model. */
 public final class ModelTest {
-    private static final int RUNS = 600;
-    private static final int CALLS = 500;
+    private static final int RUNS = 750;
+    /** A last text may follow, and no more than 512 calls are promised. */
+    private static final int CALLS = 400;
     private static final int[] PRIMES = {2, 2, 3, 3, 5, 7, 11, 13, 101, 241, 251};
     private static final int[] ODD_ARGUMENTS = {
         -1, -2, Integer.MIN_VALUE, Integer.MAX_VALUE, Integer.MAX_VALUE - 1, 1 << 30, 16, 17, 252

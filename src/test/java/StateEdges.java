@@ -450,21 +450,32 @@ final class StateEdges {
     @Says(in = "Promise 33", clause = "errorCount(0) to errorCount(2), the length of the text, the number of states on "
             + "the undo stack, the prime")
     void digestHead() {
-        PadeWorkbench w = Makers.text(7, " ".repeat(83)).get();
-        w.undo();
-        w.undo();
-        w.undo();
-        w.append(128);
+        PadeWorkbench w = failing();
         digestIs("errors and a full text", w, head(1, 2, 3, 80, 0, 101));
-        w.setPrime(251);
-        digestIs("the greatest prime", w, head(1, 2, 3, 80, 1, 251));
         w.clearText();
-        w.setPrime(2);
-        digestIs("the least prime", w, head(1, 2, 3, 0, 2, 2));
-        for (int states = 3; states <= 5; states++) {
-            w.clearPoints();
-            digestIs("states on the stack", w, head(1, 2, 3, 0, Math.min(states, 4), 2));
+        digestIs("an empty text", w, head(1, 2, 3, 0, 0, 101));
+        for (int prime : new int[] {2, 101, 251}) {
+            w = failing();
+            w.setPrime(prime);
+            digestIs("the prime " + prime, w, head(1, 2, 3, 80, 1, prime));
         }
+        for (int states = 0; states <= 6; states++) {
+            w = failing();
+            for (int i = 0; i < states; i++) {
+                w.clearPoints();
+            }
+            digestIs(states + " saved states", w, head(1, 2, 3, 80, Math.min(states, 4), 101));
+        }
+    }
+
+    /** One call was INVALID, two REJECTED, three FULL; no state is saved. */
+    private static PadeWorkbench failing() {
+        PadeWorkbench w = new PadeWorkbench();
+        w.append(128);
+        w.undo();
+        w.undo();
+        Checks.write(w, " ".repeat(83));
+        return w;
     }
 
     @Says(in = "Promise 33", clause = "for each series its coefficients c0 to c15, then for each m from 0 to 7 "

@@ -7,7 +7,6 @@ public final class StateTest {
 
     public static void main(String[] args) {
         StateTest test = new StateTest();
-        test.undoOfEach();
         test.undoKeepsFour();
         test.undoKeepsTextAndErrors();
         test.failuresSaveNothing();
@@ -24,81 +23,6 @@ public final class StateTest {
         w.addPoint(3, 0);
         w.addPoint(2, 7);
         return w;
-    }
-
-    /** Each undoable method saves one state, also if it changes nothing. */
-    private void undoOfEach() {
-        for (int method = 0; method < 11; method++) {
-            PadeWorkbench w = busy();
-            while (w.undo() > 1) {
-                // What is left on the stack is one state, so that a new one can be counted.
-            }
-            String before = stateOf(w);
-            boolean changes = call(w, method) == 1;
-            String after = stateOf(w);
-            checks.hold("method " + method + " changes the state", before.equals(after) != changes);
-            checks.due("method " + method + " saves one state", w.undo(), 1);
-            checks.hold("method " + method + " is undone", before.equals(stateOf(w)));
-        }
-    }
-
-    /** Calls an undoable method; 1 if it should change something, 0 if not. */
-    private static int call(PadeWorkbench w, int method) {
-        switch (method) {
-            case 0:
-                w.setPrime(17);
-                return 1;
-            case 1:
-                w.set(0, 0, 5);
-                return 1;
-            case 2:
-                w.set(3, 7, 0);
-                return 0;
-            case 3:
-                w.add(0, 0, 1);
-                return 1;
-            case 4:
-                w.multiply(0, 0, 2);
-                return 1;
-            case 5:
-                w.invert(0, 0);
-                return 1;
-            case 6:
-                w.substitute(0, 3, 0);
-                return 1;
-            case 7:
-                w.derivative(3, 3);
-                return 0;
-            case 8:
-                Checks.parse(w, 3, "7/1-x");
-                return 1;
-            case 9:
-                w.addPoint(9, 9);
-                return 1;
-            default:
-                w.clearPoints();
-                return 0;
-        }
-    }
-
-    /** What is saved: the prime as far as it can be seen, the series, and the points. */
-    private static String stateOf(PadeWorkbench w) {
-        StringBuilder state = new StringBuilder();
-        for (int slot = 0; slot < 4; slot++) {
-            for (int k = 0; k < 16; k++) {
-                state.append(w.coefficient(slot, k)).append(' ');
-            }
-        }
-        int top = 251;
-        while (w.evaluate(0, 0, 0, top) == INVALID) {
-            top--;
-        }
-        state.append("prime ").append(top + 1);
-        for (int m = 0; m < 10; m++) {
-            state.append(' ').append(w.unattainable(m));
-            state.append(' ').append(w.interpolant(m, 0, 0)).append(' ').append(w.interpolant(m, 0, 1));
-        }
-        return state.toString();
     }
 
     private void undoKeepsFour() {
