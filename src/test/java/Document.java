@@ -6,11 +6,15 @@ import java.util.LinkedHashMap;
 import java.util.List;
 import java.util.Map;
 
-/** The document's sections, each as the list of its clauses: what stands between . ; and line ends. */
+/**
+ * The document's sections, each as the list of its clauses (what stands between . ; and line ends),
+ * and the lines of the public face.
+ */
 final class Document {
     private static final Path FILE = Path.of("../shared/DOC.md");
 
     private final Map<String, List<String>> sections = new LinkedHashMap<>();
+    private final List<String> face = new ArrayList<>();
 
     Document() throws IOException {
         String section = "";
@@ -22,7 +26,9 @@ final class Document {
                 section = line.substring(3).replaceAll(":.*", "");
             } else if (line.matches("[A-Z][A-Z -]+")) {
                 section = line;
-            } else if (!fence && !code && !line.matches("#.*|`.*|----.*|")) {
+            } else if (code && !fence) {
+                face.add(line.trim());
+            } else if (!fence && !line.matches("#.*|`.*|----.*|")) {
                 sections.computeIfAbsent(section, name -> new ArrayList<>()).addAll(clauses(line));
             }
         }
@@ -39,5 +45,9 @@ final class Document {
 
     Map<String, List<String>> sections() {
         return sections;
+    }
+
+    List<String> face() {
+        return face;
     }
 }

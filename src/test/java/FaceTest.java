@@ -1,68 +1,78 @@
+import java.io.IOException;
 import java.lang.reflect.Constructor;
+import java.lang.reflect.Executable;
 import java.lang.reflect.Field;
+import java.lang.reflect.Member;
 import java.lang.reflect.Method;
 import java.lang.reflect.Modifier;
+import java.util.List;
+import java.util.StringJoiner;
 import java.util.TreeSet;
 
 /** The public face, the constants, and promise 1. */
 public final class FaceTest {
-    private static final String[] METHODS = {
-        "int setPrime 1", "int set 3", "int coefficient 2", "int add 3", "int multiply 3",
-        "int invert 2", "int substitute 3", "int derivative 2", "int append 1", "int clearText 0",
-        "int parse 1", "int numeratorDegree 3", "int denominatorDegree 3", "int numerator 4",
-        "int denominator 4", "int order 3", "int blockSize 3", "int evaluate 4",
-        "int normalCount 2", "int determinant 3", "int quotientDifference 4",
-        "int quotientCount 2", "int quotient 4", "int complexity 2", "int recurrence 3",
-        "int addPoint 2", "int clearPoints 0", "int interpolant 3", "int unattainable 1",
-        "int undo 0", "int errorCount 1", "long digest 0"
-    };
-    private static final String[] CONSTANTS = {"NONE", "INVALID", "REJECTED", "FULL"};
-
     private final Checks checks = new Checks();
 
-    public static void main(String[] args) {
+    public static void main(String[] args) throws IOException {
         FaceTest test = new FaceTest();
-        test.methods();
-        test.fields();
+        test.members(new Document().face());
+        test.constants();
         test.newObject();
         test.objectsAreApart();
         test.checks.end();
     }
 
-    private void methods() {
-        TreeSet<String> found = new TreeSet<>();
-        for (Method method : PadeWorkbench.class.getDeclaredMethods()) {
-            if (Modifier.isPrivate(method.getModifiers())) {
-                continue;
-            }
-            String name = method.getReturnType() + " " + method.getName();
-            found.add(name + " " + method.getParameterCount());
-            checks.hold(name + " is public", Modifier.isPublic(method.getModifiers()));
-            checks.hold(name + " is no static method", !Modifier.isStatic(method.getModifiers()));
-            for (Class<?> type : method.getParameterTypes()) {
-                checks.hold(name + " takes int alone", type == int.class);
-            }
+    /** The class has the lines of the document's face, and no others that can be seen from outside. */
+    private void members(List<String> face) {
+        TreeSet<String> written = new TreeSet<>();
+        for (String line : face) {
+            written.add(line.replaceAll(";$", "").replaceAll("int \\w+(?=[,)])", "int"));
         }
-        checks.hold("the methods are the document's " + found,
-                found.equals(new TreeSet<>(java.util.Arrays.asList(METHODS))));
-        Constructor<?>[] constructors = PadeWorkbench.class.getDeclaredConstructors();
-        checks.due("constructors", constructors.length, 1);
-        checks.hold("the constructor is public", Modifier.isPublic(constructors[0].getModifiers()));
-        checks.due("arguments of the constructor", constructors[0].getParameterCount(), 0);
-        int modifiers = PadeWorkbench.class.getModifiers();
-        checks.hold("public and final", Modifier.isPublic(modifiers) && Modifier.isFinal(modifiers));
+        TreeSet<String> found = new TreeSet<>(List.of(PadeWorkbench.class.toGenericString() + " {", "}"));
+        for (Method method : PadeWorkbench.class.getDeclaredMethods()) {
+            String head = Modifier.toString(method.getModifiers()) + " " + method.getReturnType();
+            add(found, method, head + " " + method.getName() + types(method));
+        }
+        for (Constructor<?> constructor : PadeWorkbench.class.getDeclaredConstructors()) {
+            add(found, constructor, Modifier.toString(constructor.getModifiers()) + " " + constructor.getName()
+                    + types(constructor));
+        }
+        for (Field field : PadeWorkbench.class.getDeclaredFields()) {
+            add(found, field, Modifier.toString(field.getModifiers()) + " " + field.getType() + " " + field.getName()
+                    + " = " + valueOf(field));
+        }
+        for (String line : written) {
+            checks.hold("the class has [" + line + "]", found.contains(line));
+        }
+        for (String line : found) {
+            checks.hold("the document has [" + line + "]", written.contains(line));
+        }
     }
 
-    private void fields() {
-        int seen = 0;
-        for (Field field : PadeWorkbench.class.getDeclaredFields()) {
-            if (!Modifier.isPrivate(field.getModifiers())) {
-                seen++;
-                checks.hold(field.getName() + " is in the face",
-                        java.util.Arrays.asList(CONSTANTS).contains(field.getName()));
-            }
+    private static void add(TreeSet<String> found, Member member, String line) {
+        if (!Modifier.isPrivate(member.getModifiers())) {
+            found.add(line);
         }
-        checks.due("constants", seen, 4);
+    }
+
+    private static String types(Executable method) {
+        StringJoiner types = new StringJoiner(", ", "(", ")");
+        for (Class<?> type : method.getParameterTypes()) {
+            types.add(type.toString());
+        }
+        return types.toString();
+    }
+
+    private static Object valueOf(Field field) {
+        try {
+            return Modifier.isPublic(field.getModifiers()) && Modifier.isStatic(field.getModifiers())
+                    ? field.get(null) : "?";
+        } catch (IllegalAccessException e) {
+            throw new IllegalStateException(e);
+        }
+    }
+
+    private void constants() {
         checks.due("NONE", PadeWorkbench.NONE, -1);
         checks.due("INVALID", PadeWorkbench.INVALID, -2);
         checks.due("REJECTED", PadeWorkbench.REJECTED, -3);
